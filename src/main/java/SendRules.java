@@ -57,6 +57,7 @@ public final class SendRules {
     private static final int UNKNOWN = -1;
 
     private static final int KEPT_VALUES = 8;
+    private static final int GREATEST = 2147483647;
 
     private final Reader reader = new Reader();
     private Records present;
@@ -298,7 +299,7 @@ public final class SendRules {
             return floatBitsOfMean(sum);
         }
         long product = (long) n * sum;
-        return product > Integer.MAX_VALUE ? FULL : (int) product;
+        return product > GREATEST ? FULL : (int) product;
     }
 
     public int leads(int name) {
@@ -725,7 +726,7 @@ public final class SendRules {
         }
 
         private boolean readItem(Records into) {
-            char sort = next();
+            int sort = next();
             int code = readName();
             if (code == NO_NAME || !take(':')) {
                 return false;

@@ -118,6 +118,12 @@ public final class PromiseTest {
         due("write", x.write('b'), 1);
         due("no letter of the old text is left", x.named(0), NONE);
         due("names stay", x.count(0), 5);
+        type(x, "na:+a;");
+        type(x, "na:+a");
+        due("no semicolon of the old text is left", x.fault(), 0);
+        type(x, "bbbb");
+        type(x, "eb");
+        due("only the new text is searched for", x.named(0), 2);
     }
 
     private static void faultOfPolicies() {
@@ -193,6 +199,33 @@ public final class PromiseTest {
         due("lay gives the host back", x.lay() + x.hostOf(1, 0), 11);
     }
 
+    private static void layAgain() {
+        promise = 5;
+        SendRules x = new SendRules();
+        for (int k = 0; k < 3; k++) {
+            type(x, "na:+ib,-p9/8,+eaaa;nb:+a,ra;ac:1,2,3,4;xd:a,b,c;");
+            due("lay the larger text", x.lay(), 4);
+        }
+        for (int k = 0; k < 3; k++) {
+            type(x, "nb:-a;xa:b;");
+            due("lay the smaller text", x.lay(), 2);
+            due("names", x.count(0), 2);
+            due("policies", x.count(1), 1);
+            due("rules", x.count(2), 1);
+            due("hosts", x.count(3), 0);
+            due("the redirect is gone", x.name(1, 4), NONE);
+            due("leads", x.leads(1), 0);
+            due("the rule's name is gone", x.rule(1, 0, 4), NONE);
+            due("a policy is gone", x.name(0, 5), 0);
+            due("a rule is gone", x.rule(1, 1, 0), BAD);
+            due("exchangers", x.name(0, 3), 1);
+        }
+        type(x, "na:+ia;ab:1;x");
+        due("fault", x.fault(), 12);
+        due("fault and lay with an error leave the records", x.lay() + x.count(0) * 10 + x.count(1), 19);
+        due("the exchangers too", x.name(0, 3), 1);
+    }
+
     private static void order() {
         promise = 6;
         SendRules x = with("aba:1;ab:1;aa:1;aab:1;np:+a;abaa:1;aap:1;aaaaaaaa:1;appppppp:1;");
@@ -262,6 +295,8 @@ public final class PromiseTest {
         checkIs(x, "a", 5, 0, is(3, 2, 0, 0, 0));
         checkIs(x, "a", 6, 0, is(3, 4, 0, 3, 0));
         checkIs(x, "a", 9, 0, is(1, 5, 0, 4, 0));
+        x = with("na:+ib,~ic;nb:-a;nc:-p1/8,?a;");
+        checkIs(x, "a", 1, 0, is(1, 2, 0, NONE, NONE));
         x = with("na:+p1/8,+ib;ab:1;nc:+p1/8,rb;nd:-ic,+a;ne:-if,+a;nf:+p1/8;");
         checkIs(x, "a", 1, 0, is(2, 0, 0, 0, 0));
         checkIs(x, "a", 2, 0, is(5, 1, 0, NONE, NONE));
@@ -576,6 +611,10 @@ public final class PromiseTest {
         SendRules z = with("na:+p1/8,rb;nb:-p2/8,-p1/8,~p3/8;nc:+p1/8,-p1/8,-p1/8,-p1/8,-p1/8,-p1/8,-p1/8,-p1/8;");
         due("rules of a redirect count for its own name only", z.dead(0, 0) * 8 + z.dead(1, 0), 0);
         due("eight rules", z.dead(2, 0), 0b11111110);
+        SendRules w = with("na:+p0/8,+p255/8;");
+        due("the first and the last address", w.dead(0, 0), 0);
+        w = with("na:+p128/1,+p64/2,+p32/3,+p16/4,+p8/5,+p4/6,+p2/7,+p1/7;");
+        due("eight rules that each decide", w.dead(0, 0), 0);
         for (int[] bad : new int[][] {{-1, 0}, {6, 0}, {0, -1}, {0, 16}, {HIGH, 0}, {0, HIGH}, {LOW, LOW}}) {
             due("dead", x.dead(bad[0], bad[1]), BAD);
         }
@@ -602,6 +641,9 @@ public final class PromiseTest {
         due("8388607 times 256", x.lookups(4, 5, 8388607, 0), 2147483392);
         due("8388608 times 256", x.lookups(4, 5, 8388608, 0), FULL);
         due("16777216 times 256", x.lookups(4, 5, 16777216, 0), FULL);
+        SendRules y = with("na:+p128/1,+p64/2,+p32/3,+p16/4,+p8/5,+p4/6,+p2/7,+p1/8,rb;nb:+a;");
+        due("a sum of 1, times the greatest factor", y.lookups(0, 0, HIGH, 0), HIGH);
+        due("a mean of 1/256", y.lookups(0, 0, 1, 1), Float.floatToIntBits(1 / 256f));
         due("the greatest factor", x.lookups(2, 0, HIGH, 0), FULL);
         for (int[] bad : new int[][] {{-1, 0, 1, 0}, {6, 0, 1, 0}, {0, -1, 1, 0}, {0, 16, 1, 0}, {0, 0, -1, 0}, {0, 0, LOW, 0},
             {0, 0, 1, -1}, {0, 0, 1, 2}, {6, 0, HIGH, 0}, {0, 0, HIGH, HIGH}, {2, 16, HIGH, 0}}) {
@@ -654,6 +696,7 @@ public final class PromiseTest {
         faultOfPolicies();
         faultOfOthers();
         lay();
+        layAgain();
         order();
         checkRules();
         checkLeading();
