@@ -388,7 +388,8 @@ public final class ChecksEdges {
     }
 
     private static void deciding() {
-        Edge.of(PART, "this can be a rule of a name to which redirects lead, but not one of an included name");
+        Edge.of(PART, "The deciding rule of a check is the rule that matched and by whose sign the result of the check arose; this can be "
+            + "a rule of a name to which redirects lead, but not one of an included name.");
         SendRules x = Edge.laid("na:~ib,rc;nb:+p1/8,rd;nc:-p3/8,re;nd:+p2/8;ne:?p4/8,-p5/8;nf:-ia,+a;");
         Edge.check(x, "a", 1, 0, Edge.is(4, 1, 0), "a", 0);
         Edge.check(x, "a", 2, 0, Edge.is(4, 2, 0), "a", 0);

@@ -109,7 +109,7 @@ public final class ConventionsEdges {
     }
 
     private static void noneIsLast() {
-        Edge.of("CONVENTIONS", "it is returned only if neither BAD nor NO nor FULL applies");
+        Edge.of("CONVENTIONS", "NONE (-4) means that there is no such value; it is returned only if neither BAD nor NO nor FULL applies.");
         SendRules x = Edge.laid("na:+a;ab:1;");
         Edge.due("kept, too many and a wrong what", x.kept(0, 8), -1);
         Edge.due("kept, NONE alone", x.kept(0, 7), -4);

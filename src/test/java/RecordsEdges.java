@@ -19,7 +19,7 @@ public final class RecordsEdges {
         for (String form : new String[] {"n@:+a;", "a@:1;", "x@:b;", "xb:@;", "xb:c,d,@;", "xb:@,c;", "nb:+i@;", "nb:-h@;",
             "nb:~m@;", "nb:?i@,-a;", "nb:+a,r@;"}) {
             Edge.good(put(form, "a", "p", "n", "h", "abcdefg", "hijklmn", "opopopo", "ppppppp", "aaaaaaa"));
-            Edge.bad(put(form, "", "abcdefgh", "aaaaaaaaa", "q", "r", "x", "`", "A", "P", "aq", "qa", "abcdefq", "a.b", "a b", " a", "a ",
+            Edge.bad(put(form, "", "abcdefgh", "aaaaaaaaa", "q", "r", "x", "`", "A", "P", "aq", "qa", "a`", "`a", "abcdefq", "a.b", "a b", " a", "a ",
                 "1", "a1", "%d", "-"));
         }
         SendRules x = Edge.laid("nabcdefg:+a;ahijklmn:1;xop:a;");
@@ -100,6 +100,30 @@ public final class RecordsEdges {
         Edge.due("a blank between items", Edge.typed("na:+a; ab:1;").fault(), 6);
         Edge.due("no semicolon at the end", Edge.typed("na:+a;ab:1").fault(), 6);
         Edge.due("a sort alone at the end", Edge.typed("na:+a;ab:1;n").fault(), 11);
+    }
+
+    /** Items of the given length in all, which is at least 10. */
+    private static String filler(int length) {
+        return "xa:b;".repeat(length / 5 - 1) + "x" + "a".repeat(1 + length % 5) + ":b;";
+    }
+
+    private static void cutItems() {
+        Edge.of(PART, "each with a semicolon at the end");
+        String[] items = {"nabcdefg:+a,-p255/8,~iabcdefg,?hb,+mb,-eab%d,~e%-7o%1s%l,rabcdefg;", "aabcdefg:0,25,255,007;",
+            "xabcdefg:b,abcdefg,c;"};
+        for (String item : items) {
+            for (int cut = 1; cut < item.length(); cut++) {
+                String start = item.substring(0, cut);
+                Edge.due("fault of " + start, Edge.typed(start).fault(), 0);
+                SendRules x = Edge.typed(filler(240 - cut) + start);
+                Edge.due("the length with " + start, x.count(6), 240);
+                Edge.due("fault of " + start + " as the end of 240 characters", x.fault(), 240 - cut);
+                x = Edge.typed(item);
+                Edge.type(x, start);
+                Edge.due("fault of " + start + " after the whole item", x.fault(), 0);
+            }
+            Edge.due("fault of the whole item", Edge.typed(filler(240 - item.length()) + item).fault(), Edge.NONE);
+        }
     }
 
     private static void sorts() {
@@ -186,6 +210,9 @@ public final class RecordsEdges {
         Edge.due("the check is by the last policy", x.check(0, 0, 0), 3);
         x = Edge.laid("na:-a;aa:9;xa:b;na:+p1/1,~a,ra;aa:1,2,3,4;xa:a,b,c;");
         Edge.due("the longer ones are the last", Edge.records(x), "a +p1/1,~a r0 p1 a1,2,3,4 x3; ");
+        x = Edge.laid("na:-p1/8,rb;nb:+a;na:-p1/8;");
+        Edge.due("an earlier redirect isn't one", x.name(0, 4), Edge.NONE);
+        Edge.due("an earlier redirect doesn't lead", x.leads(0) * 10 + x.check(0, 2, 0), 1);
         x = Edge.laid("na:+a;nb:+a,+a;na:-a;nb:-a,-a;na:~a;aa:1;na:?a;");
         Edge.due("four of one sort, others between", Edge.records(x), "a ?a r-4 p1 a1 x0; b -a,-a r-4 p1 a x0; ");
         x = Edge.laid("na:+p1/8,+eb;na:+eb,-a;ab:1;");
@@ -238,7 +265,7 @@ public final class RecordsEdges {
         }
         Edge.bad("na:+p1/9;", "na:+p1/10;", "na:+p1/80;", "na:+p1/255;", "na:+p1/256;", "na:+p1/-1;", "na:+p1/;", "na:+p1;", "na:+p;",
             "na:+p/1;", "na:+p/;", "na:+p1//1;", "na:+p1/1/1;", "na:+p1:1;", "na:+p1,1;", "na:+p1 /1;", "na:+p1/ 1;", "na:+p256/8;",
-            "na:+P1/8;", "na:+pa/8;", "na:+p1/a;", "na:+p1/8a;");
+            "na:+P1/8;", "na:+p18;", "na:+p1234;", "na:+p2558;", "na:+p2568;", "na:+p0000;", "na:+pa/8;", "na:+p1/a;", "na:+p1/8a;");
     }
 
     private static void macroParts() {
@@ -249,6 +276,11 @@ public final class RecordsEdges {
             }
             Edge.bad("na:+e" + part.repeat(9) + ";", "na:+e" + part.repeat(9) + ",-a;", "na:+e" + part.repeat(10) + ";");
         }
+        Edge.due("no part, where an earlier macro had one", Edge.typed("na:+ea;na:+e;").fault(), 7);
+        SendRules x = Edge.laid("na:+e%d%d;");
+        x.lay();
+        Edge.type(x, "na:+e;");
+        Edge.due("no part, where an earlier text had two", x.fault(), 0);
         Edge.good("na:+ea%db%-oc%1sd%-7l;");
         Edge.bad("na:+e;", "na:+ea%db%-oc%1sd%-7lp;", "na:+ea%db%-oc%1sd%-7l%d;", "na:+e,+a;", "na:+e,rb;");
     }
@@ -396,6 +428,7 @@ public final class RecordsEdges {
         sizes();
         textLength();
         items();
+        cutItems();
         sorts();
         policySize();
         redirect();

@@ -94,6 +94,9 @@ final class Edge {
         if (wrong != 0) {
             System.exit(1);
         }
+        tests = 0;
+        dues = 0;
+        duesBefore = 0;
     }
 
     static void type(SendRules x, String text) {
