@@ -326,6 +326,11 @@ public final class ChecksEdges {
         Edge.check(x, "g", 0, 0, Edge.is(2, 2, 0), "e", 0);
         Edge.check(x, "h", 0, 0, Edge.is(2, 2, 0), "h", 1);
         Edge.check(x, "j", 0, 0, Edge.is(2, 2, 0), "f", 0);
+        x = Edge.laid("nab:+icde,-a;ncde:+e%d;acde:1;nfgh:+ii,-a;ni:+e%o;afgh:1;nj:-p1/8,rcde;nklm:-p1/8,ri;aklm:1;");
+        Edge.check(x, "ab", 0, 0, Edge.is(2, 2, 0), "ab", 0);
+        Edge.check(x, "fgh", 0, 0, Edge.is(2, 2, 0), "fgh", 0);
+        Edge.check(x, "j", 0, 0, Edge.is(2, 2, 0), "cde", 0);
+        Edge.check(x, "klm", 0, 0, Edge.is(2, 2, 0), "i", 0);
     }
 
     private static void macroAddress() {
@@ -398,6 +403,11 @@ public final class ChecksEdges {
         Edge.check(x, "a", 5, 0, Edge.is(3, 4, 0), "e", 1);
         Edge.check(x, "f", 3, 0, Edge.is(2, 4, 0), "f", 1);
         Edge.check(x, "b", 2, 0, Edge.is(2, 1, 0), "d", 0);
+        x = Edge.laid("na:-ib;nb:?a;nc:-id,rb;nd:-p1/8,re;ne:~a;nf:-ib,rg;ng:+p1/8;");
+        Edge.check(x, "a", 1, 0, Edge.is(1, 1, 0));
+        Edge.check(x, "c", 1, 0, Edge.is(1, 2, 0), "b", 0);
+        Edge.check(x, "c", 2, 0, Edge.is(1, 3, 0), "b", 0);
+        Edge.check(x, "f", 2, 0, Edge.is(1, 2, 0));
     }
 
     private static void noDeciding() {
